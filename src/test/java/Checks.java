@@ -1,0 +1,115 @@
+import java.nio.charset.StandardCharsets;
+
+/** What the tests share: comparing answers, and feeding and reading texts and bytes. */
+final class Checks {
+    /** A call whose answer or exception is looked at; a boolean counts 1 or 0. */
+    interface Call {
+        long make();
+    }
+
+    private int wrong = 0;
+    private int made = 0;
+
+    void same(String what, long got, long due) {
+        made++;
+        if (got != due) {
+            wrong++;
+            System.out.println(what + ": answered " + got + ", due is " + due);
+        }
+    }
+
+    void same(String what, boolean got, boolean due) {
+        same(what, got ? 1 : 0, due ? 1 : 0);
+    }
+
+    void same(String what, String got, String due) {
+        made++;
+        if (!got.equals(due)) {
+            wrong++;
+            System.out.println(what + ": answered <" + got + ">, due is <" + due + ">");
+        }
+    }
+
+    void refused(String what, Class<? extends RuntimeException> due, Call call) {
+        made++;
+        String got = "no exception";
+        try {
+            call.make();
+        } catch (RuntimeException thrown) {
+            got = thrown.getClass().getName();
+        }
+        if (!got.equals(due.getName())) {
+            wrong++;
+            System.out.println(what + ": " + got + ", due is " + due.getName());
+        }
+    }
+
+    void end() {
+        System.out.println(made + " answers looked at, " + wrong + " of them wrong");
+        if (wrong != 0) {
+            System.exit(1);
+        }
+    }
+
+    static byte[] octets(String text) {
+        return text.getBytes(StandardCharsets.ISO_8859_1);
+    }
+
+    /** Puts bytes behind the tape. */
+    static void feed(GateHouse gate, byte[] bytes) {
+        int before = gate.count(0);
+        for (int k = 0; k < bytes.length; k += 20) {
+            int[] words = new int[5];
+            for (int j = 0; j < 20; j++) {
+                int octet = k + j < bytes.length ? bytes[k + j] & 255 : 0;
+                words[j / 4] = words[j / 4] << 8 | octet;
+            }
+            gate.feed(words[0], words[1], words[2], words[3], words[4]);
+        }
+        gate.end(before + bytes.length);
+    }
+
+    static int load(GateHouse gate, int list, String text) {
+        feed(gate, octets(text));
+        return gate.load(list);
+    }
+
+    static GateHouse gateWith(String text) {
+        GateHouse gate = new GateHouse();
+        load(gate, 0, text);
+        return gate;
+    }
+
+    static byte[] out(GateHouse gate) {
+        byte[] bytes = new byte[gate.count(1)];
+        for (int k = 0; k < bytes.length; k++) {
+            bytes[k] = (byte) gate.octet(k);
+        }
+        return bytes;
+    }
+
+    static String written(GateHouse gate, int list) {
+        gate.write(list);
+        return new String(out(gate), StandardCharsets.ISO_8859_1);
+    }
+
+    static String found(GateHouse gate) {
+        StringBuilder all = new StringBuilder();
+        for (int what = 0; what < 7; what++) {
+            all.append(what == 0 ? "" : " ").append(Integer.toUnsignedString(gate.found(what)));
+        }
+        return all.toString();
+    }
+
+    private static final String[] PARTS =
+            {"proto", "src", "dst", "sport", "dport", "phase", "answered", "fin", "due"};
+
+    /** The parts of a connection from a first one on, blanks between. */
+    static String connection(GateHouse gate, int i, int firstPart) {
+        StringBuilder all = new StringBuilder();
+        for (int what = firstPart; what < PARTS.length; what++) {
+            all.append(what == firstPart ? "" : " ").append(Integer.toUnsignedString(gate.connection(i, what)));
+        }
+        return all.toString();
+    }
+}
