@@ -101,13 +101,10 @@ final class Checks {
         return all.toString();
     }
 
-    private static final String[] PARTS =
-            {"proto", "src", "dst", "sport", "dport", "phase", "answered", "fin", "due"};
-
-    /** The parts of a connection from a first one on, blanks between. */
+    /** The parts of a connection from a first one on to the last, blanks between. */
     static String connection(GateHouse gate, int i, int firstPart) {
         StringBuilder all = new StringBuilder();
-        for (int what = firstPart; what < PARTS.length; what++) {
+        for (int what = firstPart; what <= 8; what++) {
             all.append(what == firstPart ? "" : " ").append(Integer.toUnsignedString(gate.connection(i, what)));
         }
         return all.toString();
