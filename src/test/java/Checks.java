@@ -7,14 +7,23 @@ final class Checks {
         long make();
     }
 
+    // One cause can make many answers wrong: the first ones tell it.
+    private static final int MOST_LINES = 50;
+
     private int wrong = 0;
     private int made = 0;
+
+    private void complain(String line) {
+        wrong++;
+        if (wrong <= MOST_LINES) {
+            System.out.println(line);
+        }
+    }
 
     void same(String what, long got, long due) {
         made++;
         if (got != due) {
-            wrong++;
-            System.out.println(what + ": answered " + got + ", due is " + due);
+            complain(what + ": answered " + got + ", due is " + due);
         }
     }
 
@@ -25,8 +34,7 @@ final class Checks {
     void same(String what, String got, String due) {
         made++;
         if (!got.equals(due)) {
-            wrong++;
-            System.out.println(what + ": answered <" + got + ">, due is <" + due + ">");
+            complain(what + ": answered <" + got + ">, due is <" + due + ">");
         }
     }
 
@@ -39,8 +47,7 @@ final class Checks {
             got = thrown.getClass().getName();
         }
         if (!got.equals(due.getName())) {
-            wrong++;
-            System.out.println(what + ": " + got + ", due is " + due.getName());
+            complain(what + ": " + got + ", due is " + due.getName());
         }
     }
 
