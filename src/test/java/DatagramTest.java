@@ -16,6 +16,7 @@ public final class DatagramTest {
         related();
         notTold();
         packing();
+        packedFlags();
         packedSums();
         CHECKS.end();
     }
@@ -330,6 +331,15 @@ public final class DatagramTest {
         packed("a fault is no packet", gate, "4500001400000000" + "40ff" + "af40" + "c0a800010a000002");
         send(gate, 0, datagram(5, 17, 0xc0a80001, 0x0a000002, udp(1234, 53, 99)));
         packed("shortest", gate, "4500001c000000004011" + "b026" + "c0a800010a000002" + "04d20035" + "0008" + "302c");
+    }
+
+    /** Only the lowest six bits of their byte are flags. */
+    private static void packedFlags() {
+        GateHouse gate = open();
+        send(gate, 0, datagram(0, 6, 1, 2, tcp(3, 4, 42, 0, 0)));
+        gate.pack();
+        CHECKS.same("flags", gate.octet(33), 42);
+        CHECKS.same("rows", gate.octet(32), 80);
     }
 
     /** What is packed comes again as a datagram that packs to the same. */

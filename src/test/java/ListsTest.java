@@ -110,6 +110,10 @@ public final class ListsTest {
         CHECKS.same("least in its own place", gate.least(0, 0), 2);
         CHECKS.same("told goes then", gate.rule(0, 0, 14), 0);
         CHECKS.same("what is left", Checks.written(gate, 0), "policy reject;\naccept in 1;\ndrop in 1-2;\n");
+        gate.packet(1, 50, 0, 0, 0, 0, 0);
+        Checks.load(gate, 0, "accept in 1;");
+        gate.least(0, 1);
+        CHECKS.same("nor what a list that has gone was told", gate.rule(1, 0, 14), 0);
         // From the last one to the first one: of two that are the same the earlier one is left.
         Checks.load(gate, 2, "accept in 1 state new; accept in 1; accept in 1 state new;");
         CHECKS.same("least", gate.least(2, 3), 1);
