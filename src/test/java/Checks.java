@@ -12,11 +12,19 @@ final class Checks {
 
     private int wrong = 0;
     private int made = 0;
+    private int sentences = 0;
+    private String sentence = "";
+
+    /** The sentence of the document, by its section, that the answers from here on are held against. */
+    void sentence(String section, String words) {
+        sentences++;
+        sentence = section + ": " + words;
+    }
 
     private void complain(String line) {
         wrong++;
         if (wrong <= MOST_LINES) {
-            System.out.println(line);
+            System.out.println(line + (sentence.isEmpty() ? "" : " [" + sentence + "]"));
         }
     }
 
@@ -52,7 +60,8 @@ final class Checks {
     }
 
     void end() {
-        System.out.println(made + " answers looked at, " + wrong + " of them wrong");
+        String held = sentences == 0 ? "" : sentences + " sentences, ";
+        System.out.println(held + made + " answers looked at, " + wrong + " of them wrong");
         if (wrong != 0) {
             System.exit(1);
         }
