@@ -1,3 +1,4 @@
+import java.util.Arrays;
 import java.util.NoSuchElementException;
 
 /**
@@ -17,6 +18,7 @@ public final class CallSentencesTest extends Datagrams {
         feedOrder();
         feedFull();
         endWithin();
+        endTakesOff();
         endRefused();
         octetOfOut();
         octetRefused();
@@ -212,6 +214,40 @@ public final class CallSentencesTest extends Datagrams {
         CHECKS.same("0 of 20", gate.end(0), true);
         CHECKS.same("none is there", gate.count(0), 0);
         CHECKS.same("an empty text", gate.load(0), 0);
+    }
+
+    private static void endTakesOff() {
+        CHECKS.sentence("Promise 3", "The tape has its first n bytes alone: what stood behind them has no part in anything");
+        GateHouse gate = Checks.gateWith("policy accept;");
+        Checks.feed(gate, Checks.octets("drop in 1.2.3.4;"));
+        gate.end(9);
+        CHECKS.same("a number without the .", gate.load(1), -10);
+        CHECKS.same("the end can't come", gate.fault(), 2);
+        Checks.feed(gate, Checks.octets("drop;drop;"));
+        gate.end(5);
+        CHECKS.same("a rule without the other", gate.load(1), 1);
+        Checks.feed(gate, Checks.octets("dropped;"));
+        gate.end(4);
+        CHECKS.same("a word without the rest", gate.load(1), -5);
+        Checks.feed(gate, Checks.octets("drop    ?"));
+        gate.end(5);
+        CHECKS.same("a blank without the rest", gate.load(1), -6);
+        // A last byte by itself is a row with 0, not with what stood behind it.
+        byte[][] all = {datagram(0, 17, 1, 2, udp(3, 4, 1)), datagram(0, 6, 1, 2, tcp(3, 4, 2, 0, 1)),
+            datagram(0, 1, 1, 2, icmp(8, 0, 9, new byte[1]))};
+        for (byte[] d : all) {
+            byte[] more = Arrays.copyOf(d, d.length + 30);
+            Arrays.fill(more, d.length, more.length, (byte) 255);
+            Checks.feed(gate, more);
+            gate.end(d.length);
+            CHECKS.same("a datagram without the rest", gate.datagram(0), 1);
+        }
+        // So is the place behind the last byte of a full tape.
+        for (int k = 0; k < 105; k++) {
+            gate.feed(0x20202020, 0x20202020, 0x20202020, 0x20202020, 0x31313131);
+        }
+        CHECKS.same("a full tape that ends in a number", gate.load(1), -17);
+        CHECKS.same("which can't come", gate.fault(), 2);
     }
 
     private static void endRefused() {

@@ -19,6 +19,7 @@ public final class ConnectionSentencesTest extends Datagrams {
         timeAtFirst();
         roomAtFirst();
         partsAtBeginning();
+        nothingLeftOfOthers();
         asOrigin();
         asAnswer();
         asBoth();
@@ -119,6 +120,55 @@ public final class ConnectionSentencesTest extends Datagrams {
         for (int i = 0; i < due.length; i++) {
             CHECKS.same("connection " + i, Checks.connection(gate, i, 0), due[i]);
         }
+    }
+
+    private static void nothingLeftOfOthers() {
+        terms("A CONNECTION has, at its beginning, nothing of one that has gone");
+        for (int way = 0; way < 3; way++) {
+            GateHouse gate = open();
+            gate.room(1);
+            for (int flags : new int[] {2, -18, 16, -1, 1, -16}) {
+                int got = flags > 0 ? gate.packet(0, 6, 1, 2, 3, 4, flags) : gate.packet(0, 6, 2, 1, 4, 3, -flags);
+                CHECKS.same("flags " + flags, got, flags == 2 ? NEW : ESTABLISHED);
+            }
+            CHECKS.same("it has had both FINs", Checks.connection(gate, 0, 5), "6 1 2 120");
+            if (way == 0) {
+                gate.now(120);
+            } else {
+                gate.room(way);
+            }
+            int now = gate.count(2);
+            gate.packet(0, 17, 7, 8, 9, 10, 0);
+            CHECKS.same("udp", Checks.connection(gate, 0, 0), "17 7 8 9 10 0 0 0 " + (now + 30));
+            gate.room(1);
+            gate.packet(0, 6, 7, 8, 9, 10, 2);
+            CHECKS.same("tcp", Checks.connection(gate, 0, 0), "6 7 8 9 10 1 0 0 " + (now + 120));
+        }
+        // A full table that loses some and is filled again.
+        GateHouse gate = open();
+        gate.room(64);
+        for (int k = 0; k < 64; k++) {
+            gate.packet(0, k % 3 == 0 ? 17 : 50, 1, 100 + k, 5, 6, 0);
+        }
+        gate.now(30);
+        CHECKS.same("so many are left", gate.count(4), 42);
+        for (int k = 0; k < 22; k++) {
+            CHECKS.same("begins", to(gate, 200 + k), NEW);
+        }
+        CHECKS.same("none went", gate.count(6), 0);
+        int place = 0;
+        for (int k = 0; k < 64; k++) {
+            if (k % 3 != 0) {
+                CHECKS.same("an old one", Checks.connection(gate, place, 0), "50 1 " + (100 + k) + " 5 6 0 0 0 600");
+                place++;
+            }
+        }
+        for (int k = 0; k < 22; k++) {
+            CHECKS.same("a new one", Checks.connection(gate, place + k, 0), "17 1 " + (200 + k) + " 5 6 0 0 0 60");
+        }
+        to(gate, 300);
+        CHECKS.same("the oldest of the least due went", gate.connection(42, 2), 201);
+        CHECKS.same("the newest", gate.connection(63, 2), 300);
     }
 
     private static void asOrigin() {

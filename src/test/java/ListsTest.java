@@ -278,13 +278,14 @@ public final class ListsTest {
             GateHouse gate = new GateHouse();
             int oneIn = 2 + random.nextInt(3);
             String one = list(random, random.nextInt(6), oneIn);
-            // Often the second list is the first one with a rule more.
-            String other = random.nextBoolean() ? list(random, random.nextInt(4), oneIn) : one + rule(random, oneIn);
+            String other = beside(random, one, oneIn);
             Checks.load(gate, 0, one);
             Checks.load(gate, 1, other);
             Model a = new Model(gate, 0);
             Model b = new Model(gate, 1);
             againstShadows(gate, a, one);
+            // What was asked before must not matter.
+            gate.least(random.nextInt(2), 3);
             long[] due = firstPoint(p -> a.action(p, 0) != b.action(p, 0), a, b);
             CHECKS.same("alike " + one + " and " + other, gate.alike(0, 1), due == null);
             if (due != null) {
@@ -292,6 +293,21 @@ public final class ListsTest {
             }
             againstLeast(gate, a, one);
         }
+    }
+
+    /** Another list, or often the first one with a rule more, or with one rule changed. */
+    private static String beside(Random random, String one, int oneIn) {
+        int way = random.nextInt(3);
+        if (way == 0) {
+            return list(random, random.nextInt(4), oneIn);
+        }
+        String[] parts = one.split(";");
+        if (way == 1 || parts.length == 1) {
+            return one + rule(random, oneIn);
+        }
+        String changed = rule(random, oneIn);
+        parts[1 + random.nextInt(parts.length - 1)] = changed.substring(0, changed.length() - 1);
+        return String.join(";", parts) + ";";
     }
 
     private static void againstShadows(GateHouse gate, Model a, String text) {

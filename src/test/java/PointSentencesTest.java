@@ -29,6 +29,8 @@ public final class PointSentencesTest {
         shadowedByNone();
         alikeAtEach();
         alikeBut();
+        alikeButForOnePart();
+        alikeWhateverWasAsked();
         leastFromTheLast();
         leastWithoutThoseTaken();
         matchAnswers();
@@ -213,6 +215,59 @@ public final class PointSentencesTest {
         CHECKS.same("it", Checks.found(gate), LAST_POINT);
         CHECKS.same("but at the first point", gate.alike(0, 2), false);
         CHECKS.same("it", Checks.found(gate), FIRST_POINT);
+    }
+
+    private static void alikeButForOnePart() {
+        terms("Two LISTS are ALIKE, if of each POINT: not, if one RULE has another end, other STATES or another ACTION");
+        String[][] parts = {{"in 1-2", "in 0-2", "in 1-3", "in 1", "in 2"},
+            {"proto 5-9", "proto 4-9", "proto 5-10", "proto 6-9", "proto 5-8"},
+            {"from 0.0.0.5-0.0.0.9", "from 0.0.0.4-0.0.0.9", "from 0.0.0.5-0.0.0.10", "from 0.0.0.6-0.0.0.9"},
+            {"to 0.0.0.5-0.0.0.9", "to 0.0.0.4-0.0.0.9", "to 0.0.0.5-0.0.0.10", "to 0.0.0.6-0.0.0.9"},
+            {"sport 5-9", "sport 4-9", "sport 5-10", "sport 6-9", "sport 5-8"},
+            {"dport 5-9", "dport 4-9", "dport 5-10", "dport 6-9", "dport 5-8"},
+            {"state new", "state invalid", "state new,related", "state established,related,invalid"}};
+        for (String[] row : parts) {
+            for (String part : row) {
+                GateHouse gate = gateWith(all("accept", row[0]), all("accept", part), all("reject", part));
+                CHECKS.same(row[0] + " and " + part, gate.alike(0, 1), part.equals(row[0]));
+                CHECKS.same(row[0] + " and " + part + " rejected", gate.alike(0, 2), false);
+                CHECKS.same(part + " accepted and rejected", gate.alike(1, 2), false);
+                // Behind a rule that is the same on both sides.
+                Checks.load(gate, 0, "reject sport 70;" + all("accept", row[0]));
+                Checks.load(gate, 1, "reject sport 70;" + all("accept", part));
+                CHECKS.same(row[0] + " and " + part + " behind one", gate.alike(0, 1), part.equals(row[0]));
+            }
+        }
+        GateHouse gate = gateWith("accept in 0; accept dport 6;", "accept in 0; accept dport 7;");
+        CHECKS.same("behind what is whole", gate.alike(0, 1), false);
+        CHECKS.same("its point", Checks.found(gate), "1 0 0 0 0 6 0");
+        // What was gone through in vain by one IN is not so by another.
+        gate = gateWith("accept proto 0 dport 5; accept in 0 proto 1 dport 5;", "accept proto 0-1 dport 5; accept in 0 proto 1 dport 5;");
+        CHECKS.same("by the second IN", gate.alike(0, 1), false);
+        CHECKS.same("its point", Checks.found(gate), "1 1 0 0 0 5 0");
+    }
+
+    private static void alikeWhateverWasAsked() {
+        terms("Two LISTS are ALIKE, if of each POINT: whatever was asked before");
+        GateHouse gate = gateWith("accept in 1; accept in 3;", "accept in 2; accept in 3;", "reject in 1-2; drop dport 5; reject;");
+        for (int k = 0; k < 3; k++) {
+            CHECKS.same("least", gate.least(2, 3), 3);
+            CHECKS.same("alike", gate.alike(2, 3), true);
+            CHECKS.same("not alike", gate.alike(0, 1), false);
+            CHECKS.same("its point", Checks.found(gate), "1 0 0 0 0 0 0");
+            CHECKS.same("not shadowed", gate.shadowed(2, 2), false);
+            CHECKS.same("its point", Checks.found(gate), "0 0 0 0 0 0 0");
+            CHECKS.same("not alike the other way", gate.alike(1, 0), false);
+            CHECKS.same("its point", Checks.found(gate), "1 0 0 0 0 0 0");
+            CHECKS.same("alike", gate.alike(0, 0), true);
+        }
+        // Lists of the same length, asked one behind another.
+        Checks.load(gate, 0, "accept dport 7;");
+        Checks.load(gate, 1, "accept dport 7;");
+        Checks.load(gate, 2, "accept dport 8;");
+        CHECKS.same("the same", gate.alike(0, 1), true);
+        CHECKS.same("not the same", gate.alike(0, 2), false);
+        CHECKS.same("the same again", gate.alike(1, 0), true);
     }
 
     private static void least(String text, String due) {

@@ -294,6 +294,17 @@ public final class TextSentencesTest extends Datagrams {
         CHECKS.same("the first point", gate.match(0, 0, 0, 0, 0, 0, 0, 0), 0);
         CHECKS.same("the last point", gate.match(0, 3, 255, -1, -1, 65535, 65535, 3), 0);
         CHECKS.same("in between", gate.match(0, 3, 255, MOST, LEAST, 65535, 65535, 3), 0);
+        // Nor is anything left of what stood in its place before.
+        String narrow = "accept in 1 proto 2 from 0.0.0.3 to 0.0.0.4 sport 5 dport 6 state new;";
+        for (int k = 0; k < 4; k++) {
+            Checks.load(gate, 0, narrow.repeat(2));
+            Checks.load(gate, 1, narrow.repeat(2));
+            Checks.load(gate, 0, "reject;reject;");
+            for (int what = 0; what < 15; what++) {
+                CHECKS.same("rule 0, " + what, gate.rule(0, 0, what), due[what]);
+                CHECKS.same("rule 1, " + what, gate.rule(0, 1, what), due[what]);
+            }
+        }
         // A part of the rule ahead is not taken along.
         Checks.load(gate, 0, "drop in 1 state new; drop;");
         CHECKS.same("in of the second", gate.rule(0, 1, 3), 3);
@@ -544,6 +555,16 @@ public final class TextSentencesTest extends Datagrams {
         bad(BLANKS.substring(0, 1996) + "drop;", 2000, 4);
         bad(BLANKS.substring(0, 1998) + "drop;", 2000, 4);
         bad("drop;".repeat(16) + BLANKS.substring(0, 1920) + "drop;", 2000, 4);
+        // A token that begins ahead of it is right or wrong as a whole.
+        String far = "drop from" + BLANKS.substring(0, 1989);
+        bad(far + "1.2.3.4;", 2000, 4);
+        bad(far + "1.2.3.x;", 1998, 1);
+        bad(far + "1.2.3.4-0.0.0.0;", 2000, 4);
+        bad(far + "drop;", 1998, 2);
+        bad(BLANKS.substring(0, 1999) + "1".repeat(101), 1999, 1);
+        bad(BLANKS.substring(0, 1999) + "a".repeat(101), 1999, 1);
+        bad(BLANKS.substring(0, 1999) + "1" + ".1".repeat(50), 1999, 1);
+        bad(BLANKS.substring(0, 2000) + "1".repeat(100), 2000, 4);
         // What is wrong ahead of it comes first.
         bad("?" + BLANKS.substring(0, 2000), 0, 1);
         bad(BLANKS.substring(0, 1999) + "?;", 1999, 1);
