@@ -217,7 +217,7 @@ public final class CallSentencesTest extends Datagrams {
     }
 
     private static void endTakesOff() {
-        CHECKS.sentence("Promise 3", "The tape has its first n bytes alone: what stood behind them has no part in anything");
+        CHECKS.sentence("Promise 3", "The tape has its first n bytes alone: true", "what stood behind them");
         GateHouse gate = Checks.gateWith("policy accept;");
         Checks.feed(gate, Checks.octets("drop in 1.2.3.4;"));
         gate.end(9);
@@ -299,7 +299,7 @@ public final class CallSentencesTest extends Datagrams {
     }
 
     private static void countsAtFirst() {
-        CHECKS.sentence("Promise 21", "0 bytes of the tape, 1 of OUT, 2 NOW, 3 ROOM, 4 CONNECTIONS, 5 packets that came, at first");
+        CHECKS.sentence("Promise 21", "0 bytes of the tape, 1 of OUT, 2 NOW, 3 ROOM, 4 CONNECTIONS, 5 packets that came", "at first");
         GateHouse gate = new GateHouse();
         int[] due = {0, 0, 0, 8, 0, 0, 0, 0};
         for (int what = 0; what < 8; what++) {

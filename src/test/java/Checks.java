@@ -15,10 +15,16 @@ final class Checks {
     private int sentences = 0;
     private String sentence = "";
 
-    /** The sentence of the document, by its section, that the answers from here on are held against. */
+    /** The words of the document, by their section, that the answers from here on are held against; .. is a gap. */
     void sentence(String section, String words) {
         sentences++;
         sentence = section + ": " + words;
+    }
+
+    /** The same, where several tests hold one sentence, each in one respect. */
+    void sentence(String section, String words, String aspect) {
+        sentence(section, words);
+        sentence += " - " + aspect;
     }
 
     private void complain(String line) {
@@ -107,6 +113,20 @@ final class Checks {
     static String written(GateHouse gate, int list) {
         gate.write(list);
         return new String(out(gate), StandardCharsets.ISO_8859_1);
+    }
+
+    /** A list as it is written, where it is too long to be read from one gate by 512 calls. */
+    static String writtenByMany(String text) {
+        StringBuilder all = new StringBuilder();
+        int length = gateWith(text).write(0);
+        for (int from = 0; from < length; from += 300) {
+            GateHouse gate = gateWith(text);
+            gate.write(0);
+            for (int k = from; k < from + 300 && k < length; k++) {
+                all.append((char) gate.octet(k));
+            }
+        }
+        return all.toString();
     }
 
     static String found(GateHouse gate) {

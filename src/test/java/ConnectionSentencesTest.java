@@ -27,6 +27,7 @@ public final class ConnectionSentencesTest extends Datagrams {
         goesWhenDue();
         goneIsGone();
         relatedOnes();
+        invalidWhereNot();
         establishedOnes();
         newTcp();
         newIcmp();
@@ -54,6 +55,7 @@ public final class ConnectionSentencesTest extends Datagrams {
         packetAnswers();
         packetFull();
         packetRefused();
+        connectionParts();
         connectionOrder();
         connectionRefused();
         CHECKS.end();
@@ -61,6 +63,10 @@ public final class ConnectionSentencesTest extends Datagrams {
 
     private static void terms(String words) {
         CHECKS.sentence("Terms, 4", words);
+    }
+
+    private static void terms(String words, String aspect) {
+        CHECKS.sentence("Terms, 4", words, aspect);
     }
 
     private static GateHouse open() {
@@ -108,7 +114,7 @@ public final class ConnectionSentencesTest extends Datagrams {
 
     private static void partsAtBeginning() {
         terms("A CONNECTION has a PROTO, the SRC, DST, SPORT, DPORT of the packet that began it (its ORIGIN), a PHASE,"
-                + " whether it is ANSWERED, whose FIN came first, and a DUE time.");
+                + " whether it is ANSWERED, whose FIN came first (0 none, 1 ORIGIN's, 2 the ANSWER's), and a DUE time.");
         GateHouse gate = open();
         gate.packet(3, 6, -1, LEAST, 65535, 0, 2);
         gate.packet(3, 17, LEAST, -1, 0, 65535, 63);
@@ -123,7 +129,7 @@ public final class ConnectionSentencesTest extends Datagrams {
     }
 
     private static void nothingLeftOfOthers() {
-        terms("A CONNECTION has, at its beginning, nothing of one that has gone");
+        terms("the SRC, DST, SPORT, DPORT of the packet that began it (its ORIGIN), a PHASE", "nothing of one that has gone");
         for (int way = 0; way < 3; way++) {
             GateHouse gate = open();
             gate.room(1);
@@ -159,12 +165,14 @@ public final class ConnectionSentencesTest extends Datagrams {
         int place = 0;
         for (int k = 0; k < 64; k++) {
             if (k % 3 != 0) {
-                CHECKS.same("an old one", Checks.connection(gate, place, 0), "50 1 " + (100 + k) + " 5 6 0 0 0 600");
+                CHECKS.same("an old one", gate.connection(place, 2), 100 + k);
+                CHECKS.same("due of an old one", gate.connection(place, 8), 600);
                 place++;
             }
         }
         for (int k = 0; k < 22; k++) {
-            CHECKS.same("a new one", Checks.connection(gate, place + k, 0), "17 1 " + (200 + k) + " 5 6 0 0 0 60");
+            CHECKS.same("a new one", gate.connection(place + k, 2), 200 + k);
+            CHECKS.same("due of a new one", gate.connection(place + k, 8), 60);
         }
         to(gate, 300);
         CHECKS.same("the oldest of the least due went", gate.connection(42, 2), 201);
@@ -226,12 +234,13 @@ public final class ConnectionSentencesTest extends Datagrams {
         CHECKS.same("another code", gate.packet(0, 1, 1, 2, 8 * 256 + 255, 77, 0), NEW);
         CHECKS.same("is of it", gate.count(4), 1);
         for (int type = 0; type < 256; type++) {
-            if (type != 8) {
-                CHECKS.same("type " + type + " of the origin's end", gate.packet(0, 1, 1, 2, type * 256, 77, 0), INVALID);
-            }
-            if (type != 8 && type != 0) {
-                CHECKS.same("type " + type + " of the other end", gate.packet(0, 1, 2, 1, type * 256, 77, 0), INVALID);
-            }
+            GateHouse other = open();
+            other.packet(0, 1, 1, 2, 8 * 256, 77, 0);
+            CHECKS.same("type " + type + " of the origin's end", other.packet(0, 1, 1, 2, type * 256, 77, 0),
+                    type == 8 ? NEW : INVALID);
+            CHECKS.same("type " + type + " of the other end", other.packet(0, 1, 2, 1, type * 256, 77, 0),
+                    type == 8 ? NEW : type == 0 ? ESTABLISHED : INVALID);
+            CHECKS.same("answered by " + type, other.connection(0, 6), type == 0 ? 1 : 0);
         }
         for (int id : new int[] {76, 78, 0, 65535}) {
             CHECKS.same("answer " + id, gate.packet(0, 1, 2, 1, 0, id, 0), INVALID);
@@ -270,7 +279,7 @@ public final class ConnectionSentencesTest extends Datagrams {
     }
 
     private static void goneIsGone() {
-        terms("When NOW is DUE or later, it goes: a packet is of it no more");
+        terms("When NOW is DUE or later, it goes.", "a packet is of it no more");
         GateHouse gate = open();
         gate.packet(0, 6, 1, 2, 3, 4, 2);
         gate.packet(0, 6, 2, 1, 4, 3, 18);
@@ -310,6 +319,22 @@ public final class ConnectionSentencesTest extends Datagrams {
             CHECKS.same("of none, " + k, send(gate, 0, report(none[k])), INVALID);
         }
         CHECKS.same("packet() tells of none", gate.packet(0, 1, 1, 2, 3 * 256, 0, 0), INVALID);
+    }
+
+    private static void invalidWhereNot() {
+        terms("Else, if it is of a CONNECTION: of TCP INVALID where - stands below");
+        GateHouse gate = open();
+        gate.packet(0, 6, 1, 2, 3, 4, 2);
+        // A SYN alone is NEW where it is of none; as an answer it is of this one, and - stands there.
+        CHECKS.same("an answer's SYN", gate.packet(0, 6, 2, 1, 4, 3, 2), INVALID);
+        CHECKS.same("begins nothing", gate.count(4), 1);
+        gate.packet(0, 6, 2, 1, 4, 3, 18);
+        gate.packet(0, 6, 1, 2, 3, 4, 16);
+        CHECKS.same("a SYN where it is OPEN", gate.packet(0, 6, 1, 2, 3, 4, 2), INVALID);
+        CHECKS.same("though it is ANSWERED", Checks.connection(gate, 0, 5), "3 1 0 3600");
+        // Others have no PHASES, and no such packets.
+        gate.packet(0, 17, 1, 2, 3, 4, 63);
+        CHECKS.same("udp with any flags", gate.packet(0, 17, 2, 1, 4, 3, 7), ESTABLISHED);
     }
 
     private static void establishedOnes() {
@@ -396,7 +421,7 @@ public final class ConnectionSentencesTest extends Datagrams {
     }
 
     private static void steps() {
-        terms("One that is of a CONNECTION steps it: it is ANSWERED, if this is an ANSWER; DUE is NOW and the time below.");
+        terms("One that is of a CONNECTION steps it: it is ANSWERED, if this is an ANSWER; .. DUE is NOW and the time below.");
         GateHouse gate = open();
         to(gate, 2);
         gate.now(29);
@@ -448,7 +473,7 @@ public final class ConnectionSentencesTest extends Datagrams {
     }
 
     private static void leastDueGoes() {
-        terms("then, of those that are not ANSWERED, the one with the least DUE goes");
+        terms("then, of those that are not ANSWERED, the one with the least DUE .. goes");
         GateHouse gate = open();
         gate.room(4);
         gate.packet(0, 50, 1, 11, 0, 0, 0);
@@ -780,6 +805,25 @@ public final class ConnectionSentencesTest extends Datagrams {
         CHECKS.same("the least", gate.packet(0, 0, 0, 0, 0, 0, 0), NEW);
         CHECKS.same("the most", gate.packet(3, 255, -1, -1, 65535, 65535, 63), NEW);
         CHECKS.same("other addresses", gate.packet(3, 255, LEAST, MOST, 65535, 65535, 63), NEW);
+    }
+
+    private static void connectionParts() {
+        CHECKS.sentence("Promise 20", "0 PROTO, 1 SRC, 2 DST, 3 SPORT, 4 DPORT, 5 PHASE, 6 whether it is ANSWERED,"
+                + " 7 whose FIN came first, 8 DUE.");
+        GateHouse gate = open();
+        gate.now(999999999);
+        gate.packet(0, 6, LEAST, -1, 65535, 1, 2);
+        int[] begun = {6, LEAST, -1, 65535, 1, 1, 0, 0, 1000000119};
+        for (int what = 0; what < 9; what++) {
+            CHECKS.same("begun, " + what, gate.connection(0, what), begun[what]);
+        }
+        gate.packet(0, 6, -1, LEAST, 1, 65535, 18);
+        gate.packet(0, 6, LEAST, -1, 65535, 1, 16);
+        gate.packet(0, 6, -1, LEAST, 1, 65535, 17);
+        int[] closing = {6, LEAST, -1, 65535, 1, 4, 1, 2, 1000000119};
+        for (int what = 0; what < 9; what++) {
+            CHECKS.same("closing, " + what, gate.connection(0, what), closing[what]);
+        }
     }
 
     private static void connectionOrder() {

@@ -13,6 +13,8 @@ public final class DatagramSentencesTest extends Datagrams {
     private static final int INVALID = 13;
 
     public static void main(String[] args) {
+        edgesOfFields();
+        flagsAndProtocols();
         asAWhole();
         firstOfThese();
         fewerThanTwenty();
@@ -55,6 +57,10 @@ public final class DatagramSentencesTest extends Datagrams {
         CHECKS.sentence("Terms, 1", words);
     }
 
+    private static void terms(String words, String aspect) {
+        CHECKS.sentence("Terms, 1", words, aspect);
+    }
+
     private static GateHouse open() {
         return Checks.gateWith("policy accept;");
     }
@@ -78,8 +84,61 @@ public final class DatagramSentencesTest extends Datagrams {
         return datagram(0, 50, 1, 2, new byte[bytes]);
     }
 
+    private static void edgesOfFields() {
+        terms("PACKETS have FIELDS: IN (0 .. 3), PROTO (0 .. 255), SRC and DST (ADDRESSES, 0 to 2^32 - 1; as ints their 32 bits),"
+                + " SPORT and DPORT (0 .. 65535), FLAGS (0 .. 63).");
+        int[] tops = {3, 255, 0, 0, 65535, 65535, 63};
+        GateHouse gate = open();
+        for (int f = 0; f < 7; f++) {
+            int[] edges = f == 2 || f == 3 ? new int[] {0, MOST, LEAST, -1} : new int[] {0, tops[f]};
+            int[] beyond = f == 2 || f == 3 ? new int[0] : new int[] {-1, tops[f] + 1, MOST, LEAST};
+            for (int value : edges) {
+                CHECKS.same("field " + f + " is " + value, packet(gate, f, value), 1);
+                CHECKS.same("matched", f == 6 ? GateHouse.NONE : match(gate, f, value), GateHouse.NONE);
+            }
+            int field = f;
+            for (int value : beyond) {
+                CHECKS.refused("field " + f + " is " + value, IllegalArgumentException.class, () -> packet(gate, field, value));
+                if (f < 6) {
+                    CHECKS.refused("matched with " + value, IllegalArgumentException.class, () -> match(gate, field, value));
+                }
+            }
+        }
+        CHECKS.same("so many came", gate.count(5), 18);
+    }
+
+    /** A packet of no known protocol that has one field as told. */
+    private static int packet(GateHouse gate, int field, int value) {
+        int[] p = {1, 99, 1, 2, 3, 4, 5};
+        p[field] = value;
+        gate.room(1);
+        return gate.packet(p[0], p[1], p[2], p[3], p[4], p[5], p[6]);
+    }
+
+    private static int match(GateHouse gate, int field, int value) {
+        int[] p = {1, 99, 1, 2, 3, 4};
+        p[field] = value;
+        return gate.match(0, p[0], p[1], p[2], p[3], p[4], p[5], 0);
+    }
+
+    private static void flagsAndProtocols() {
+        terms("SYN is 2, FIN 1, RST 4, ACK 16 of FLAGS; of PROTO 6 is TCP, 17 UDP, 1 ICMP.");
+        for (int bit = 1; bit < 64; bit *= 2) {
+            CHECKS.same("flag " + bit + " begins a TCP", open().packet(0, 6, 1, 2, 3, 4, bit), bit == 2 ? 1 : INVALID);
+        }
+        for (int proto = 0; proto < 256; proto++) {
+            GateHouse gate = open();
+            boolean lone = proto == 6 || proto == 1;
+            CHECKS.same("without flags, proto " + proto, gate.packet(0, proto, 1, 2, 3, 4, 0), lone ? INVALID : 1);
+            gate.room(1);
+            gate.packet(0, proto, 1, 2, 8 * 256, 4, 2);
+            int due = proto == 6 ? 120 : proto == 17 || proto == 1 ? 30 : 600;
+            CHECKS.same("due of proto " + proto, gate.connection(0, 8), due);
+        }
+    }
+
     private static void asAWhole() {
-        terms("DATAGRAMS are bytes as published: the tape as a whole is one.");
+        terms("DATAGRAMS are bytes as published .. : the tape as a whole is one.");
         good("the shortest", other(0));
         good("the longest tape", datagram(0, 17, 1, 2, udp(3, 4, 2100 - 28)));
         good("the longest header", datagram(10, 6, 1, 2, tcp(3, 4, 2, 10, 0)));
@@ -122,7 +181,7 @@ public final class DatagramSentencesTest extends Datagrams {
     }
 
     private static void lengthIsNot() {
-        terms("3 its length (bytes 2, 3) is not how many bytes there are (2)");
+        terms("3 its length (bytes 2, 3) is not how many bytes there are .. (2)");
         byte[] d = datagram(0, 50, 1, 2, new byte[280]);
         good("300 bytes", d);
         bad("one byte more", Arrays.copyOf(d, 301), 2, 3);
@@ -135,7 +194,7 @@ public final class DatagramSentencesTest extends Datagrams {
     }
 
     private static void lengthBelowHeader() {
-        terms("3 its length is less than its header's (2)");
+        terms("3 its length .. or less than its header's (2)");
         for (int rows = 5; rows <= 15; rows++) {
             byte[] d = new byte[4 * rows];
             d[0] = (byte) (64 + rows);
@@ -185,7 +244,7 @@ public final class DatagramSentencesTest extends Datagrams {
     }
 
     private static void tcpRows() {
-        terms("6 of TCP: less than 20 bytes from T on, or byte T + 12 / 16 is not 5 to 15 or goes beyond the end (T)");
+        terms("6 of TCP: less than 20 bytes from T on, or byte T + 12 / 16 is not 5 to 15 or goes beyond the end .. (T)");
         for (int options = 0; options <= 10; options += 5) {
             int t = 20 + 4 * options;
             for (int n : new int[] {0, 12, 13, 19}) {
@@ -210,7 +269,7 @@ public final class DatagramSentencesTest extends Datagrams {
     }
 
     private static void udpLength() {
-        terms("6 of UDP: less than 8 bytes, or its length (T + 4, T + 5) is not what there is from T on (T)");
+        terms("6 .. of UDP: less than 8 bytes, or its length (T + 4, T + 5) is not what there is from T on .. (T)");
         for (int options = 0; options <= 10; options += 5) {
             int t = 20 + 4 * options;
             for (int n : new int[] {0, 5, 6, 7}) {
@@ -231,7 +290,7 @@ public final class DatagramSentencesTest extends Datagrams {
     }
 
     private static void icmpLength() {
-        terms("6 of ICMP: less than 8 bytes (T)");
+        terms("6 .. of ICMP: less than 8 bytes (T)");
         for (int options = 0; options <= 10; options += 5) {
             for (int n : new int[] {0, 1, 4, 7}) {
                 bad(n + " bytes", datagram(options, 1, 1, 2, Arrays.copyOf(icmp(8, 0, 9, new byte[0]), n)), 20 + 4 * options, 6);
@@ -241,7 +300,7 @@ public final class DatagramSentencesTest extends Datagrams {
     }
 
     private static void otherProtocols() {
-        terms("6 and 7 are of TCP, UDP and ICMP alone");
+        terms("6 of TCP .. of UDP .. of ICMP", "others have no such FAULTS");
         for (int proto : new int[] {0, 2, 5, 7, 16, 18, 255}) {
             byte[] junk = new byte[21];
             Arrays.fill(junk, (byte) 85);
@@ -252,7 +311,7 @@ public final class DatagramSentencesTest extends Datagrams {
     }
 
     private static void bodySum() {
-        terms("7 the sum of all rows of two bytes from T on is not 65535 (TCP T + 16, UDP T + 6; ICMP T + 2)");
+        terms("7 the sum of all rows of two bytes from T on .. is not 65535 (TCP T + 16, UDP T + 6, .. ICMP T + 2)");
         for (int options = 0; options <= 10; options += 5) {
             int t = 20 + 4 * options;
             byte[] tcp = datagram(options, 6, -1, -2, tcp(65535, 65534, 2, 1, 6));
@@ -563,9 +622,9 @@ public final class DatagramSentencesTest extends Datagrams {
     }
 
     private static void packTcp() {
-        CHECKS.sentence("Promise 19", "of TCP all that they tell, else 0, the sum");
-        GateHouse gate = open();
+        CHECKS.sentence("Promise 19", "of TCP, .. all that they tell .. else 0, the sum");
         for (int flags = 0; flags < 64; flags++) {
+            GateHouse gate = open();
             gate.packet(0, 6, 0, 0, 0x1234, 0xabcd, flags);
             int sum = 65535 - (0x1234 + 0xabcd + 0x5000 + flags + 6 + 20 - 65535);
             CHECKS.same("flags " + flags, packed(gate), "4500002800000000" + "40067ad1" + "0000000000000000"
@@ -573,12 +632,13 @@ public final class DatagramSentencesTest extends Datagrams {
                     + String.format("%04x", sum) + "0000");
         }
         // The sum of TCP may be 0.
+        GateHouse gate = open();
         gate.packet(0, 6, 0, 0, 65535 - 6 - 20 - 0x5002, 0, 2);
         CHECKS.same("sum 0", packed(gate).substring(72, 76), "0000");
     }
 
     private static void packUdp() {
-        CHECKS.sentence("Promise 19", "of UDP all that they tell, the sum (of UDP 65535, where it is 0)");
+        CHECKS.sentence("Promise 19", "of .. UDP, .. all that they tell .. the sum (of UDP 65535, where it is 0)");
         GateHouse gate = open();
         gate.packet(0, 17, 0, 0, 0x0102, 0x0304, 63);
         CHECKS.same("udp", packed(gate), "4500001c00000000" + "40117ad2" + "0000000000000000" + "01020304" + "0008"
@@ -594,15 +654,16 @@ public final class DatagramSentencesTest extends Datagrams {
     }
 
     private static void packIcmp() {
-        CHECKS.sentence("Promise 19", "of ICMP all that they tell (DPORT of ICMP of types 0 and 8 alone), else 0, the sum");
-        GateHouse gate = open();
+        CHECKS.sentence("Promise 19", "of .. ICMP all that they tell (DPORT of ICMP of types 0 and 8 alone), else 0, the sum");
         for (int type = 0; type < 256; type++) {
+            GateHouse gate = open();
             gate.packet(0, 1, 0, 0, type * 256 + 7, 0x0102, 63);
             boolean echo = type == 0 || type == 8;
             int sum = 65535 - type * 256 - 7 - (echo ? 0x0102 : 0);
             CHECKS.same("type " + type, packed(gate), "4500001c00000000" + "40017ae2" + "0000000000000000"
                     + String.format("%04x", type * 256 + 7) + String.format("%04x", sum) + (echo ? "0102" : "0000") + "0000");
         }
+        GateHouse gate = open();
         gate.packet(0, 1, 0, 0, 0, 0, 0);
         CHECKS.same("all 0", packed(gate).substring(40), "0000ffff00000000");
         gate.packet(0, 1, 0, 0, 8 * 256, 65535 - 8 * 256, 0);
@@ -610,9 +671,9 @@ public final class DatagramSentencesTest extends Datagrams {
     }
 
     private static void packOthers() {
-        CHECKS.sentence("Promise 19", "of TCP, UDP, ICMP all that they tell: of others the header alone");
-        GateHouse gate = open();
+        CHECKS.sentence("Promise 19", "of TCP, UDP, ICMP all that they tell", "of others the header alone");
         for (int proto = 0; proto < 256; proto++) {
+            GateHouse gate = open();
             gate.packet(0, proto, 1, 2, 3, 4, 5);
             int due = proto == 6 ? 40 : proto == 17 || proto == 1 ? 28 : 20;
             CHECKS.same("length of " + proto, gate.pack(), due);
@@ -623,11 +684,11 @@ public final class DatagramSentencesTest extends Datagrams {
     }
 
     private static void packCarries() {
-        CHECKS.sentence("Promise 19", "the sum, with carries brought in again");
-        GateHouse gate = open();
+        CHECKS.sentence("Promise 19", "the sum, SRC, DST", "carries of carries");
         // Rows of the header: 4500, 0014, 4032, then what brings the carry of a carry.
         int base = 0x4500 + 0x0014 + 0x4032;
         for (int over = -3; over <= 3; over++) {
+            GateHouse gate = open();
             int low = 0x10000 - base - 1 + over;
             gate.packet(0, 50, 0xffff0000 | low, 0, 0, 0, 0);
             int all = base + 0xffff + low;

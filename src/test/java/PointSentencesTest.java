@@ -51,6 +51,10 @@ public final class PointSentencesTest {
         CHECKS.sentence("Terms, 3", words);
     }
 
+    private static void terms(String words, String aspect) {
+        CHECKS.sentence("Terms, 3", words, aspect);
+    }
+
     private static GateHouse gateWith(String... texts) {
         GateHouse gate = new GateHouse();
         for (int list = 0; list < texts.length; list++) {
@@ -112,7 +116,7 @@ public final class PointSentencesTest {
     }
 
     private static void orderWithin() {
-        terms("They are ordered by numbers, not by rules");
+        terms("They are ordered by IN", "by its numbers, not by the rules");
         GateHouse gate = gateWith("accept dport 500; accept dport 60; accept dport 7;", "", "accept in 2; accept in 1;");
         CHECKS.same("differ", gate.alike(0, 1), false);
         CHECKS.same("the least dport", Checks.found(gate), "0 0 0 0 0 7 0");
@@ -198,7 +202,7 @@ public final class PointSentencesTest {
     }
 
     private static void alikeBut() {
-        terms("Two LISTS are ALIKE, if of each POINT: not, if of one they tell another");
+        terms("Two LISTS are ALIKE, if of each POINT they tell the same ACTION.", "all but one");
         for (int c = 0; c < 7; c++) {
             GateHouse gate = gateWith("policy accept;", each("accept", ALL_BUT_FIRST[c]), each("accept", ALL_BUT_LAST[c]));
             CHECKS.same("all but the first by " + c, gate.alike(0, 1), false);
@@ -218,7 +222,8 @@ public final class PointSentencesTest {
     }
 
     private static void alikeButForOnePart() {
-        terms("Two LISTS are ALIKE, if of each POINT: not, if one RULE has another end, other STATES or another ACTION");
+        terms("Two LISTS are ALIKE, if of each POINT they tell the same ACTION.",
+                "one rule has another end, other states or another action");
         String[][] parts = {{"in 1-2", "in 0-2", "in 1-3", "in 1", "in 2"},
             {"proto 5-9", "proto 4-9", "proto 5-10", "proto 6-9", "proto 5-8"},
             {"from 0.0.0.5-0.0.0.9", "from 0.0.0.4-0.0.0.9", "from 0.0.0.5-0.0.0.10", "from 0.0.0.6-0.0.0.9"},
@@ -248,7 +253,7 @@ public final class PointSentencesTest {
     }
 
     private static void alikeWhateverWasAsked() {
-        terms("Two LISTS are ALIKE, if of each POINT: whatever was asked before");
+        terms("Two LISTS are ALIKE, if of each POINT they tell the same ACTION.", "whatever was asked before");
         GateHouse gate = gateWith("accept in 1; accept in 3;", "accept in 2; accept in 3;", "reject in 1-2; drop dport 5; reject;");
         for (int k = 0; k < 3; k++) {
             CHECKS.same("least", gate.least(2, 3), 3);
@@ -451,7 +456,7 @@ public final class PointSentencesTest {
     }
 
     private static void leastAnswers() {
-        CHECKS.sentence("Promise 14", "LIST to is the LIST, made LEAST: how many RULES it has.");
+        CHECKS.sentence("Promise 14", "LIST to is the LIST, made LEAST .. : how many RULES it has.");
         GateHouse gate = gateWith("accept in 1; accept in 1;", "drop;", "", "policy reject; drop; accept;");
         CHECKS.same("of an empty one", gate.least(2, 1), 0);
         CHECKS.same("it has the place", gate.rules(1), 0);
@@ -468,7 +473,10 @@ public final class PointSentencesTest {
         }
         Checks.load(gate, 1, text.toString());
         CHECKS.same("16 that are all needed", gate.least(1, 2), 16);
-        CHECKS.same("written", Checks.written(gate, 2), Checks.written(gate, 1));
+        for (int k = 0; k < 16; k++) {
+            CHECKS.same("dport of " + k, gate.rule(2, k, 12), 2 * k);
+        }
+        CHECKS.same("alike", gate.alike(1, 2), true);
     }
 
     private static void leastTakesOver() {

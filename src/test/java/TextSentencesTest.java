@@ -109,7 +109,7 @@ public final class TextSentencesTest extends Datagrams {
     }
 
     private static void seventeenRules() {
-        terms("4 one too many (a 17th RULE at its ACTION)");
+        terms("4 one too many (a 17th RULE at its ACTION");
         String full = "drop;".repeat(16);
         bad(full + "drop;", 80, 4);
         bad(full + " \n reject", 83, 4);
@@ -421,7 +421,7 @@ public final class TextSentencesTest extends Datagrams {
     }
 
     private static void leastOfOneToken() {
-        terms("FAULTS, of one TOKEN the least");
+        terms("FAULTS, .. of one TOKEN the least");
         // No token, and it could not come: 1. A word that is told twice where none can come: 2.
         bad("drop in ?", 8, 1);
         bad("drop in 1 - in 2;", 12, 2);
@@ -519,7 +519,7 @@ public final class TextSentencesTest extends Datagrams {
     }
 
     private static void secondBelowFirst() {
-        terms("3 a second one of a RANGE, a second ADDRESS that is below the first");
+        terms("3 .. a second one of a RANGE, a second ADDRESS that is below the first");
         bad("drop in 1-0;", 10, 3);
         bad("drop proto 255-254;", 15, 3);
         bad("drop sport 1-0;", 13, 3);
@@ -537,7 +537,7 @@ public final class TextSentencesTest extends Datagrams {
     }
 
     private static void partTwice() {
-        terms("4 a PART told twice at its word");
+        terms("4 .. a PART told twice at its word");
         bad("drop in 1 proto 2 in 1;", 18, 4);
         bad("drop in 1 in ?", 10, 4);
         bad("drop in 1 in", 10, 4);
@@ -547,7 +547,7 @@ public final class TextSentencesTest extends Datagrams {
     }
 
     private static void byte2000() {
-        terms("4 byte 2000 of a longer TEXT, where nothing ahead of it is wrong");
+        terms("4 .. byte 2000 of a longer TEXT, where nothing ahead of it is wrong");
         bad(BLANKS.substring(0, 2000) + "drop;", 2000, 4);
         bad(BLANKS.substring(0, 2000) + "?", 2000, 4);
         bad(BLANKS.substring(0, 2050) + "?", 2000, 4);
@@ -812,7 +812,7 @@ public final class TextSentencesTest extends Datagrams {
         CHECKS.same("sixteen", Checks.load(gate, 1, brief.repeat(16)), 16);
         CHECKS.same("more than a text may have", gate.write(1), 13 + 16 * spelt.length());
         CHECKS.same("its last byte", gate.octet(gate.count(1) - 1), 10);
-        CHECKS.same("all of it", Checks.written(gate, 1), "policy drop;\n" + spelt.repeat(16));
+        CHECKS.same("all of it", Checks.writtenByMany(brief.repeat(16)), "policy drop;\n" + spelt.repeat(16));
         CHECKS.same("a shorter one takes its place", gate.write(3), 13);
         CHECKS.same("OUT", gate.count(1), 13);
     }

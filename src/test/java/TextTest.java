@@ -269,6 +269,6 @@ public final class TextTest {
         String spelt = "accept in 1-2 proto 100-254 from 0.0.0.0-127.255.255.255 to 128.0.0.0-255.255.255.255"
                 + " sport 10000-65534 dport 10000-65534 state new,related;\n";
         CHECKS.same("longer than a text", gate.write(1) > 2000, true);
-        CHECKS.same("16 rules written", Checks.written(gate, 1), "policy drop;\n" + spelt.repeat(16));
+        CHECKS.same("16 rules written", Checks.writtenByMany(wide.repeat(16)), "policy drop;\n" + spelt.repeat(16));
     }
 }
