@@ -250,6 +250,20 @@ public final class PointSentencesTest {
         gate = gateWith("accept proto 0 dport 5; accept in 0 proto 1 dport 5;", "accept proto 0-1 dport 5; accept in 0 proto 1 dport 5;");
         CHECKS.same("by the second IN", gate.alike(0, 1), false);
         CHECKS.same("its point", Checks.found(gate), "1 1 0 0 0 5 0");
+        String[][] later = {
+            {"policy drop; accept sport 1-2; reject in 2;", "policy drop; accept sport 1-2; accept proto 0-1 sport 1;", "2 0 0 0 0 0 0"},
+            {"policy drop; accept dport 2; reject proto 1-2 sport 2;", "policy drop; accept dport 2; accept dport 2;", "0 1 0 0 2 0 0"},
+            {"policy reject; accept dport 0-2; drop in 2 proto 1;", "policy reject; accept dport 0-2; drop dport 0-2;", "2 1 0 0 0 3 0"},
+            {"policy reject; accept in 2-3 proto 0; drop sport 1-2;", "policy reject; drop sport 1-2;", "2 0 0 0 0 0 0"},
+            {"policy reject; drop in 1 dport 0-1; drop dport 1;", "policy reject; drop dport 1;", "1 0 0 0 0 0 0"},
+            {"policy reject; drop in 2 proto 1-2; drop sport 0-2;", "policy reject; drop sport 0-2;", "2 1 0 0 3 0 0"}};
+        for (String[] row : later) {
+            gate = gateWith(row[0], row[1]);
+            CHECKS.same(row[0] + " and " + row[1], gate.alike(0, 1), false);
+            CHECKS.same("point of " + row[0], Checks.found(gate), row[2]);
+            CHECKS.same(row[1] + " and " + row[0], gate.alike(1, 0), false);
+            CHECKS.same("point of " + row[1], Checks.found(gate), row[2]);
+        }
     }
 
     private static void alikeWhateverWasAsked() {
